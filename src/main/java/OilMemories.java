@@ -845,7 +845,7 @@ public final class OilMemories {
           stack[top - 1] = joined(-code, stack[top - 1], stack[top]);
         }
       }
-      return held(stack[0]);
+      return held(stack.length > 0 ? stack[0] : 0);
     }
 
     int held(int v) {

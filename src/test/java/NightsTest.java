@@ -4,6 +4,7 @@ public final class NightsTest {
     nights();
     nightsToTheEnd();
     loose();
+    looseWithOneMemory();
     looseWithoutMemories();
     seed();
     tonight();
@@ -56,10 +57,14 @@ public final class NightsTest {
     }
     Due.due("count(2)", x.count(2), 9960);
     Due.due("nights(40)", x.nights(40), Due.STATE);
-    Due.due("loose(30)", x.loose(30), 0);
-    Due.due("loose(10)", x.loose(10), Due.STATE);
-    int z = x.count(7);
     Due.due("nights(9)", x.nights(9), 0);
+    x.image();
+    Due.due("nights(31)", x.nights(31), Due.STATE);
+    Due.due("loose(30) to the end", x.loose(30), 0);
+    Due.due("count(2)", x.count(2), 9999);
+    x.restore();
+    Due.due("nights(30) to the end", x.nights(30), 0);
+    int z = x.count(7);
     Due.due("count(2)", x.count(2), 9999);
     Due.due("count(3)", x.count(3), 9999);
     Due.due("nights(1)", x.nights(1), Due.STATE);
@@ -122,6 +127,25 @@ public final class NightsTest {
     Due.due("loose(30)", x.loose(30), 30);
     Due.due("count(2)", x.count(2), 130);
     Due.due("count(3)", x.count(3), 100);
+  }
+
+  private static void looseWithOneMemory() {
+    OilMemories x = new OilMemories();
+    x.memory(0, 1, 0);
+    Due.text(x, 1, "300");
+    int left = 0;
+    z = 1;
+    for (int i = 0; i < 30; i++) {
+      draw();
+      if (draw() % 8 == 0) {
+        draw();
+        left += draw() % 5;
+      }
+    }
+    Due.due("loose(30)", x.loose(30), 0);
+    Due.due("z", x.count(7), z);
+    Due.due("LEFT", x.memoryIs(0, 3), left);
+    Due.holds("there were fillings", left > 0);
   }
 
   private static void looseWithoutMemories() {
@@ -395,10 +419,12 @@ public final class NightsTest {
     x.blows(7);
     fraction(x, "15 of it", 2, 5);
     Due.due("WEATHER stays", x.count(1), 7);
+    Due.text(x, 1, "w<9");
+    x.fills(0, 0);
+    fraction(x, "w<9", 1, 10);
     String[] texts = {"1", "w>0", "w>1", "w>2", "w>3", "w>4", "w>5", "w>6", "w>7", "w>8", "w>9"};
     int[] above = {0, 1, 1, 3, 2, 1, 3, 7, 4, 9, 1};
     int[] below = {1, 10, 5, 10, 5, 2, 5, 10, 5, 10, 1};
-    x.fills(0, 0);
     for (int i = 0; i < texts.length; i++) {
       Due.text(x, 1, texts[i]);
       fraction(x, texts[i], above[i], below[i]);

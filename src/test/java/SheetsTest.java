@@ -148,6 +148,7 @@ public final class SheetsTest {
     Due.due("still missing", x.put(0, 0, 1), Due.NONE);
     Due.due("sheet(0, 8, 24)", x.sheet(0, 8, 24), 1);
     row(x, 0, 8, new int[24]);
+    x.put(0, 0, 8);
     x.put(0, 1, 9);
     Due.due("an ERROR changes nothing", x.sheet(0, 8, 25), Due.BEYOND);
     Due.due("number 1", number(x, 0, 8, 1), 9);

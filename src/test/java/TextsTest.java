@@ -98,6 +98,12 @@ public final class TextsTest {
     gives("0&w", 0);
     gives("w&0", 0);
     gives("0|0", 0);
+    gives("5+(0|0)", 5);
+    gives("5+(w&0)", 5);
+    gives("5+(w<d)", 5);
+    gives("5+(w=d)", 5);
+    gives("5+(d>w)", 5);
+    gives("5+!w", 5);
     gives("0|d", 1);
     gives("d|0", 1);
     gives("k|w", 1);
@@ -224,6 +230,9 @@ public final class TextsTest {
     Due.due("untell(0)", x.untell(0), 1);
     Due.due("law(0, 3, 0, 0)", x.law(0, 3, 0, 0), 3);
     Due.due("untell(0)", x.untell(0), 0);
+    Due.text(x, 0, "7");
+    Due.due("untell(0) of a 7", x.untell(0), 1);
+    Due.due("law(0, 3, 0, 0)", x.law(0, 3, 0, 0), 3);
   }
 
   private static void law() {
