@@ -281,6 +281,9 @@ public final class SheetsTest {
     x.put(0, 1, 99);
     Due.text(x, 0, "l*l");
     Due.due("by a text", x.judge(0), 2);
+    Due.text(x, 0, "0");
+    x.sheet(0, 8, 2);
+    Due.due("no number 2, though LIGHT is 0", x.judge(0), 2);
     x.sheet(0, 8, 0);
     Due.due("no numbers", x.judge(0), 0);
   }
