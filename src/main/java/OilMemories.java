@@ -643,7 +643,11 @@ public final class OilMemories {
 
     void copyFrom(Tower other) {
       for (int i = 0; i < memories.length && i < other.memories.length; i++) {
-        memories[i].copyFrom(other.memories[i]);
+        Memory one = memories[i];
+        Memory like = other.memories[i];
+        if (one != null && like != null) {
+          one.copyFrom(like);
+        }
       }
       lightText.copyFrom(other.lightText);
       wantedText.copyFrom(other.wantedText);

@@ -210,9 +210,10 @@ public final class EdgesTest {
     Due.due("o", x.law(0, 1, 2, 3), 2);
     for (int b = 0; b <= 255; b++) {
       boolean starts = b >= '0' && b <= '9' || b == 'l' || b == 'o' || b == 'n';
-      x.feed(b, 1);
+      OilMemories fresh = new OilMemories();
+      fresh.feed(b, 1);
       int due = starts ? 1 : b == '!' || b == '(' ? -11 : -10;
-      Due.due("a text of byte " + b + " alone", x.text(0), due);
+      Due.due("a text of byte " + b + " alone", fresh.text(0), due);
     }
   }
 

@@ -8,6 +8,8 @@ import java.util.TreeMap;
 public final class ModelTest {
   private static final int RUNS = 400;
   private static final int CALLS = 512;
+  private static final int MOST_AT_ONCE = 10;
+  private static final int MOST_AT_THE_END = 14;
   private static final int[] EDGES = {-1, 0, 1, 2, 3, 4, 5, 6, 7, 8, 9, 10, 15, 16, 23, 24, 25, 29, 30, 31, 59, 60, 61, 69, 70,
       98, 99, 100, 127, 128, 199, 255, 256, 511, 9999, 10000, 65535, 65536, Integer.MAX_VALUE, Integer.MIN_VALUE, -1000000001};
   private static final String SIGNS = "0123456789lonwdk+-*/%<=>&|!() ?";
@@ -38,7 +40,7 @@ public final class ModelTest {
     for (int i = 0; i < memories; i++) {
       calls += both(x, model, calls, "memory", random.nextInt(70), 1 + random.nextInt(15), ld());
     }
-    while (calls < CALLS - 20) {
+    while (calls <= CALLS - MOST_AT_ONCE - MOST_AT_THE_END) {
       String name = names[random.nextInt(names.length)];
       if (name.equals("text") && random.nextInt(4) != 0) {
         calls += text(x, model, calls);
